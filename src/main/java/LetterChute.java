@@ -527,8 +527,8 @@ public final class LetterChute {
             case 0: return oracle.fittingKinds(now, letter);
             case 1: return oracle.fittingThicks(now, letter);
             case 2: return oracle.fittingFloors(now, letter);
-            case 3: return Integer.bitCount(oracle.fittingWides(now));
-            default: return lowestOf(oracle.fittingWides(now));
+            case 3: return Integer.bitCount(oracle.fittingWides(now, letter));
+            default: return lowestOf(oracle.fittingWides(now, letter));
         }
     }
 
@@ -1092,51 +1092,40 @@ public final class LetterChute {
         }
 
         int fittingKinds(House now, int letter) {
-            int fitting = 0;
-            for (int k = 1; k <= KINDS; k++) {
-                trial.copyFrom(now);
-                trial.kinds[letter] = k;
-                if (trialFits()) {
-                    fitting |= 1 << k;
-                }
-            }
-            return fitting;
+            return fitting(now, letter, 0, 1, KINDS);
         }
 
         int fittingThicks(House now, int letter) {
-            int fitting = 0;
-            for (int v = MIN_THICK; v <= MAX_THICK; v++) {
-                trial.copyFrom(now);
-                trial.makeThick(letter, v);
-                if (trialFits()) {
-                    fitting |= 1 << v;
-                }
-            }
-            return fitting;
+            return fitting(now, letter, 1, MIN_THICK, MAX_THICK);
         }
 
         int fittingFloors(House now, int letter) {
-            int fitting = 0;
-            for (int f = 0; f < now.floors; f++) {
-                trial.copyFrom(now);
-                trial.postedAt[letter] = f;
-                if (trialFits()) {
-                    fitting |= 1 << f;
-                }
-            }
-            return fitting;
+            return fitting(now, letter, 2, 0, now.floors - 1);
         }
 
-        int fittingWides(House now) {
+        int fittingWides(House now, int letter) {
+            return fitting(now, letter, 3, MIN_WIDE, MAX_WIDE);
+        }
+
+        private int fitting(House now, int letter, int which, int low, int high) {
             int fitting = 0;
-            for (int v = MIN_WIDE; v <= MAX_WIDE; v++) {
+            for (int v = low; v <= high; v++) {
                 trial.copyFrom(now);
-                trial.width = v;
+                varyTrial(letter, which, v);
                 if (trialFits()) {
                     fitting |= 1 << v;
                 }
             }
             return fitting;
+        }
+
+        private void varyTrial(int letter, int which, int v) {
+            switch (which) {
+                case 0: trial.kinds[letter] = v; break;
+                case 1: trial.makeThick(letter, v); break;
+                case 2: trial.postedAt[letter] = v; break;
+                default: trial.width = v;
+            }
         }
 
         long chanceOfBox(House now, int letter, int n, int p, int what) {

@@ -84,6 +84,16 @@ public final class ActsTest {
         y.wide(9);
         y.ticks(1);
         due(y, "and falls as a parcel", 0, 4, 1, 1);
+
+        LetterChute z = Check.chute("h9,9;p7,5,0;r8,5,0;");
+        z.ticks(5);
+        due(z, "a roll behind a parcel goes on, if slowly", 1, 4, 0, 4);
+        CHECK.due("4 at most", z.letter(1, 6), 4);
+        for (int floor = 2; floor >= -1; floor--) {
+            CHECK.due("the parcel out of its way", z.poke(0), floor < 0 ? 21 : floor);
+        }
+        z.ticks(1);
+        due(z, "it falls 4", 1, 0, 0, 5);
     }
 
     private static void limpOnesCling() {
@@ -219,7 +229,9 @@ public final class ActsTest {
         CHECK.due("letter 4", x.letter(4, 0), BAD);
         CHECK.due("letter what 7", x.letter(0, 7), BAD);
         CHECK.due("letter what -1", x.letter(0, -1), BAD);
-        int[] counts = {0, 4, 4, 2, 1, 0, 2, 0};
+        x.poke(0);
+        x.poke(0);
+        int[] counts = {0, 4, 4, 2, 2, 0, 4, 0};
         for (int what = 0; what < 8; what++) {
             CHECK.due("count " + what, x.count(what), counts[what]);
         }

@@ -50,6 +50,7 @@ public final class ForetoldTest {
             CHECK.due("the card behind " + n, x.ahead(1, n, 0), card[n]);
             CHECK.due("the box behind " + n, x.all(n, 0), n < 4 ? 0 : n < 5 ? 1 : 3);
         }
+        CHECK.due("full 4 now", x.full(4, 0), 0);
         CHECK.due("full 4 behind 1", x.full(4, 1), 4);
         CHECK.due("full 4 behind 2", x.full(4, 2), 3);
         CHECK.due("full 1 behind 3", x.full(1, 3), 4);
@@ -111,6 +112,8 @@ public final class ForetoldTest {
         CHECK.due("nor any later", x.order(9, Integer.MAX_VALUE), NONE);
         CHECK.due("in 2 ticks none comes down, so 3 each", x.order(2, -1), 6);
         CHECK.due("and the first order is as good", x.order(2, 0), 0);
+        CHECK.due("in 1 tick, 2 each", x.order(1, -1), 4);
+        CHECK.due("in 40 ticks", x.order(40, -1), 6);
         CHECK.due("k -2", x.order(9, -2), BAD);
         CHECK.due("n 0", x.order(0, -1), BAD);
         CHECK.due("n 41", x.order(41, -1), BAD);
@@ -147,6 +150,8 @@ public final class ForetoldTest {
         x.wide(9);
         x.ticks(9);
         CHECK.due("all down: the least", x.need(1), 2);
+        Check.tell(x, "h3,2;c2,9,0;c2,9,0;c2,2,0;");
+        CHECK.due("20 at most", x.need(3), 20);
     }
 
     private static void latestStarts() {
@@ -203,6 +208,12 @@ public final class ForetoldTest {
     private static void sharesOfStamps() {
         LetterChute x = Check.chute("h3,5;c2,5,0;c1,5,0;c0,5,1;");
         CHECK.due("none is stuck", x.share(0, 10), 0);
+        LetterChute once = Check.chute("h3,5;c2,5,0;c0,1,0;");
+        once.ticks(1);
+        once.wide(4);
+        once.ticks(1);
+        CHECK.due("one is stuck once, and gets all", once.share(0, 10), 10);
+        CHECK.due("the other gets none", once.share(1, 10), 0);
         x.ticks(1);
         x.wide(4);
         x.ticks(1);
@@ -254,6 +265,11 @@ public final class ForetoldTest {
         LetterChute z = Check.chute("h3,4;p0,1,0;");
         z.ticks(1);
         CHECK.due("poked into the box", z.byTurns(1, 1), 1);
+
+        LetterChute six = Check.chute("h3,20;c0,1,0;c0,1,0;c0,1,0;c0,1,0;c0,1,0;c2,1,0;");
+        six.ticks(1);
+        CHECK.due("five of six", six.byTurns(0, 1), 5);
+        CHECK.due("all six", six.byTurns(1, 1), 6);
     }
 
     private static void whoItIs() {
@@ -286,6 +302,13 @@ public final class ForetoldTest {
         CHECK.due("stuck for 12 ticks, if 6 or thicker", x.who(0, 1, 1, 0, 12), 960);
         CHECK.due("stuck for 12 ticks, if 4 or narrower", x.who(0, 3, 1, 0, 12), 3);
         CHECK.due("the least", x.who(0, 4, 1, 0, 12), 2);
+
+        LetterChute y = Check.chute("h4,5;p1,2,0;c2,3,0;");
+        y.ticks(1);
+        Check.row(y, 0, 0, 2, 20, 2, 11, 2, 2);
+        CHECK.due("both come down, if the lower one is 5 at most", y.who(0, 1, 0, 0, 2), 62);
+        CHECK.due("the upper one never passes it", y.who(0, 1, 0, 2, 2), 0);
+        CHECK.due("both are stuck, if it is thicker", y.who(0, 1, 0, 4, 2), 960);
     }
 
     private static void lost(LetterChute x, int letter, int n, int p, long above, long below) {
@@ -344,6 +367,18 @@ public final class ForetoldTest {
         int[] stuck = {0, 1, 2, 3, 4, 5, 5, 6};
         for (int n = 0; n < 8; n++) {
             CHECK.due("the sixth draw makes it 15 wide, the seventh 5, stuck in " + n, y.drawn(n, 1, 1), stuck[n]);
+        }
+        for (int thick = 5; thick <= 6; thick++) {
+            Check.tell(y, "h9,9;p8," + thick + ",0;");
+            y.ticks(1);
+            y.wide(2);
+            CHECK.due(thick + " thick, by the seventh", y.drawn(7, 1, 1), thick);
+        }
+
+        LetterChute z = Check.chute("h3,9;c0,1,0;c0,1,0;");
+        int[] cameOfTwo = {0, 0, 2, 2, 2, 3, 4, 4};
+        for (int n = 0; n < 8; n++) {
+            CHECK.due("of two came in " + n, z.drawn(n, 1, 0), cameOfTwo[n]);
         }
     }
 

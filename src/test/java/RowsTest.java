@@ -44,6 +44,11 @@ public final class RowsTest {
         Check.row(x, 6, 2, 1);
         CHECK.due("an item that is 0 again", x.copy(7, 39, 6, 0, 1), 1);
         CHECK.due("two rows and one", x.count(0), 3);
+        Check.tell(x, "h3,2;c0,1,9;");
+        CHECK.due("nothing lies anywhere yet: 0 fits", x.who(0, 3, 6, 0, 1), 19);
+        CHECK.due("two items set", x.set(7, 0, 5) + x.set(7, 1, 5), 10);
+        CHECK.due("made anew once more", x.row(7, 2, 40), 40);
+        CHECK.due("both are 0 again", x.who(0, 3, 7, 0, 2), 19);
         CHECK.due("a shorter row", x.row(7, 2, 1), 1);
         CHECK.due("beyond the shorter row", x.set(7, 1, 0), PLACE);
     }
