@@ -7,7 +7,9 @@ public final class LetterChute {
 
     private static final int ROWS = 8, LANES = 3, ITEMS = 40;
     private static final int TAPE_BYTES = 100;
-    private static final int LETTERS = 6, KINDS = 5, SLIP = 2;
+    private static final int LETTERS = 6, KINDS = 5;
+    private static final int CARD = 1, SLIP = 2, LIMP = 3, PARCEL = 4, ROLL = 5;
+    private static final int CARD_FALL = 2, CLINGING_FALL = 1, PARCEL_FALL = 1, MOST_FALL = 4;
     private static final int MIN_FLOORS = 3, MAX_FLOORS = 9;
     private static final int MIN_WIDE = 2, MAX_WIDE = 20;
     private static final int MIN_THICK = 1, MAX_THICK = 9;
@@ -17,6 +19,7 @@ public final class LetterChute {
     private static final int MAX_AHEAD = 60, MAX_PLANNED = 40, MAX_TOLD = 12;
     private static final int MAX_TURNS = 4, MAX_TURN_TICKS = 20;
     private static final int MAX_SET_THICK = LETTERS * MAX_THICK, MAX_STAMPS = 999, MAX_SEED = 999999;
+    private static final int WHICH_KINDS = 0, WHICH_THICKS = 1, WHICH_FLOORS = 2, WHICH_WIDES = 3, WHICH_LEAST_WIDE = 4;
     private static final int TRACE_LENGTH = 16;
 
     /** Where a letter is: its floor, or one of these. */
@@ -25,9 +28,10 @@ public final class LetterChute {
     private final Shelf shelf = new Shelf();
     private final Reader reader = new Reader();
     private final Asking asking = new Asking();
-    private final House now;
-    private final House draft;
-    private final Oracle oracle;
+    private final Letter[] sorts = {new Card(), new Slip(), new Limp(), new Parcel(), new Roll()};
+    private final House now = new House();
+    private final House draft = new House();
+    private final Oracle oracle = new Oracle();
     private final House[] acts = new House[ACTS];
     private final House[] images = new House[IMAGES];
     private int actsKept = 0;
@@ -36,15 +40,11 @@ public final class LetterChute {
     private int finding = 0;
 
     public LetterChute() {
-        Letter[] sorts = {new Card(), new Slip(), new Limp(), new Parcel(), new Roll()};
-        now = new House(sorts);
-        draft = new House(sorts);
-        oracle = new Oracle(new House(sorts), new House(sorts));
         for (int i = 0; i < ACTS; i++) {
-            acts[i] = new House(sorts);
+            acts[i] = new House();
         }
         for (int i = 0; i < IMAGES; i++) {
-            images[i] = new House(sorts);
+            images[i] = new House();
         }
     }
 
@@ -339,7 +339,7 @@ public final class LetterChute {
     }
 
     public int who(int letter, int which, int row, int i, int n) {
-        if (!isLetter(letter) || !within(which, 0, 4) || !isRow(row) || !within(n, 1, MAX_TOLD)) {
+        if (!isLetter(letter) || !within(which, 0, WHICH_LEAST_WIDE) || !isRow(row) || !within(n, 1, MAX_TOLD)) {
             return BAD;
         }
         if (shelf.isMissing(row)) {
@@ -401,7 +401,7 @@ public final class LetterChute {
         if (!isLetter(one) || !within(kind, 0, KINDS)) {
             return BAD;
         }
-        if (!isOfKind(now.sortOf(one), kind)) {
+        if (!isOfKind(sortOf(one), kind)) {
             return found(KIND_FOUND);
         }
         return foundNothing(one);
@@ -412,7 +412,7 @@ public final class LetterChute {
             return BAD;
         }
         asking.begin(one, now.thick[one], now.stuck[one]);
-        Letter sort = now.sortOf(one);
+        Letter sort = sortOf(one);
         return what == 0 ? sort.sizeFor(asking) : sort.markFor(asking);
     }
 
@@ -524,11 +524,11 @@ public final class LetterChute {
 
     private int whoFits(int letter, int which) {
         switch (which) {
-            case 0: return oracle.fittingKinds(now, letter);
-            case 1: return oracle.fittingThicks(now, letter);
-            case 2: return oracle.fittingFloors(now, letter);
-            case 3: return Integer.bitCount(oracle.fittingWides(now, letter));
-            default: return lowestOf(oracle.fittingWides(now, letter));
+            case WHICH_KINDS: return oracle.fitting(now, letter, WHICH_KINDS, 1, KINDS);
+            case WHICH_THICKS: return oracle.fitting(now, letter, WHICH_THICKS, MIN_THICK, MAX_THICK);
+            case WHICH_FLOORS: return oracle.fitting(now, letter, WHICH_FLOORS, 0, now.floors - 1);
+            case WHICH_WIDES: return Integer.bitCount(oracle.fitting(now, letter, WHICH_WIDES, MIN_WIDE, MAX_WIDE));
+            default: return lowestOf(oracle.fitting(now, letter, WHICH_WIDES, MIN_WIDE, MAX_WIDE));
         }
     }
 
@@ -536,14 +536,18 @@ public final class LetterChute {
         return bits == 0 ? NONE : Integer.numberOfTrailingZeros(bits);
     }
 
+    private Letter sortOf(int one) {
+        return sorts[now.kinds[one] - 1];
+    }
+
     private static boolean isOfKind(Letter sort, int kind) {
         switch (kind) {
             case 0: return true;
-            case 1: return sort instanceof Card;
-            case 2: return sort instanceof Slip;
-            case 3: return sort instanceof Limp;
-            case 4: return sort instanceof Parcel;
-            case 5: return sort instanceof Roll;
+            case CARD: return sort instanceof Card;
+            case SLIP: return sort instanceof Slip;
+            case LIMP: return sort instanceof Limp;
+            case PARCEL: return sort instanceof Parcel;
+            case ROLL: return sort instanceof Roll;
             default: return false;
         }
     }
@@ -708,11 +712,11 @@ public final class LetterChute {
 
         private static int kindBySign(int sign) {
             switch (sign) {
-                case 'c': return 1;
-                case 's': return 2;
-                case 'l': return 3;
-                case 'p': return 4;
-                case 'r': return 5;
+                case 'c': return CARD;
+                case 's': return SLIP;
+                case 'l': return LIMP;
+                case 'p': return PARCEL;
+                case 'r': return ROLL;
                 default: return 0;
             }
         }
@@ -720,7 +724,6 @@ public final class LetterChute {
 
     /** A house as it stands at a tick: the one that is, one kept for undo or as an image, or one tried out. */
     private static final class House {
-        private final Letter[] sorts;
         int floors = 0;
         int width = 0;
         int tick = 0;
@@ -738,10 +741,6 @@ public final class LetterChute {
         /** By place: which letters are there, as bits, and how thick they are together. */
         final int[] lying = new int[PLACES];
         final int[] load = new int[PLACES];
-
-        House(Letter[] sorts) {
-            this.sorts = sorts;
-        }
 
         void begin(int floorsTold, int widthTold) {
             floors = floorsTold;
@@ -831,7 +830,12 @@ public final class LetterChute {
 
         int floorsToFall(int i) {
             boolean hasCompany = (lying[place[i]] & ~(1 << i)) != 0;
-            return sortOf(i).floorsToFall(run[i], hasCompany);
+            switch (kinds[i]) {
+                case LIMP: return hasCompany ? CLINGING_FALL : CARD_FALL;
+                case PARCEL: return PARCEL_FALL;
+                case ROLL: return Math.min(MOST_FALL, PARCEL_FALL + run[i]);
+                default: return CARD_FALL;
+            }
         }
 
         private boolean hasRoom(int i, int where) {
@@ -861,10 +865,6 @@ public final class LetterChute {
 
         static int below(int floor) {
             return floor == 0 ? BOX : floor - 1;
-        }
-
-        Letter sortOf(int i) {
-            return sorts[kinds[i] - 1];
         }
 
         boolean isInShaft(int i) {
@@ -908,8 +908,8 @@ public final class LetterChute {
 
     /** What is foretold: it tries things out on houses of its own, so that the one asked about stays. */
     private static final class Oracle {
-        private final House trial;
-        private final House stage;
+        private final House trial = new House();
+        private final House stage = new House();
         private final int[] tried = new int[LETTERS];
         final int[] bestOrder = new int[LETTERS];
         int fewestTicks = 0;
@@ -917,11 +917,6 @@ public final class LetterChute {
         private int orderedFor = 0;
         private final int[] told = new int[MAX_TOLD];
         private int toldLength = 0;
-
-        Oracle(House trial, House stage) {
-            this.trial = trial;
-            this.stage = stage;
-        }
 
         /** The house is another: what was found out about it no longer holds. */
         void forget() {
@@ -1042,18 +1037,22 @@ public final class LetterChute {
             return playTurns(n, 0, m, -1, LETTERS + 1);
         }
 
-        /** What comes of it from turn to turn; what is at most low, or high and more, need not be exact. */
+        /** What comes of it from this turn on; what is at most low, or high and more, need not be exact. */
         private int playTurns(int n, int turn, int m, int low, int high) {
             if (turn >= n) {
                 trial.copyFrom(stage);
                 trial.pass(m);
                 return trial.lettersBoxed();
             }
-            return turn % 2 == 0 ? porterPlays(n, turn, m, low, high) : boyPlays(n, turn, m, low, high);
-        }
-
-        private int porterPlays(int n, int turn, int m, int low, int high) {
             int best = playTurns(n, turn + 1, m, low, high);
+            if (turn % 2 == 1) {
+                if (stage.width > MIN_WIDE && best > low) {
+                    stage.width--;
+                    best = Math.min(best, playTurns(n, turn + 1, m, low, Math.min(high, best)));
+                    stage.width++;
+                }
+                return best;
+            }
             for (int i = 0; i < stage.letters && best < high; i++) {
                 if (stage.isInShaft(i)) {
                     int from = stage.place[i];
@@ -1061,16 +1060,6 @@ public final class LetterChute {
                     best = Math.max(best, playTurns(n, turn + 1, m, Math.max(low, best), high));
                     stage.moveTo(i, from);
                 }
-            }
-            return best;
-        }
-
-        private int boyPlays(int n, int turn, int m, int low, int high) {
-            int best = playTurns(n, turn + 1, m, low, high);
-            if (stage.width > MIN_WIDE && best > low) {
-                stage.width--;
-                best = Math.min(best, playTurns(n, turn + 1, m, low, Math.min(high, best)));
-                stage.width++;
             }
             return best;
         }
@@ -1091,23 +1080,8 @@ public final class LetterChute {
             return true;
         }
 
-        int fittingKinds(House now, int letter) {
-            return fitting(now, letter, 0, 1, KINDS);
-        }
-
-        int fittingThicks(House now, int letter) {
-            return fitting(now, letter, 1, MIN_THICK, MAX_THICK);
-        }
-
-        int fittingFloors(House now, int letter) {
-            return fitting(now, letter, 2, 0, now.floors - 1);
-        }
-
-        int fittingWides(House now, int letter) {
-            return fitting(now, letter, 3, MIN_WIDE, MAX_WIDE);
-        }
-
-        private int fitting(House now, int letter, int which, int low, int high) {
+        /** Which values, from low to high, of one thing about a letter or the shaft are as it was told, as bits. */
+        int fitting(House now, int letter, int which, int low, int high) {
             int fitting = 0;
             for (int v = low; v <= high; v++) {
                 trial.copyFrom(now);
@@ -1121,9 +1095,9 @@ public final class LetterChute {
 
         private void varyTrial(int letter, int which, int v) {
             switch (which) {
-                case 0: trial.kinds[letter] = v; break;
-                case 1: trial.makeThick(letter, v); break;
-                case 2: trial.postedAt[letter] = v; break;
+                case WHICH_KINDS: trial.kinds[letter] = v; break;
+                case WHICH_THICKS: trial.makeThick(letter, v); break;
+                case WHICH_FLOORS: trial.postedAt[letter] = v; break;
                 default: trial.width = v;
             }
         }
@@ -1220,10 +1194,8 @@ public final class LetterChute {
         }
     }
 
-    /** A kind of letters: how they fall, and what they answer; it keeps nothing, so one serves all letters. */
+    /** What letters of a kind answer when asked; it keeps nothing, so one serves all letters of its kind. */
     private abstract static class Letter {
-        abstract int floorsToFall(int run, boolean hasCompany);
-
         int sizeFor(Asking asking) {
             asking.leave(10);
             return asking.thick;
@@ -1236,10 +1208,6 @@ public final class LetterChute {
     }
 
     private static class Card extends Letter {
-        int floorsToFall(int run, boolean hasCompany) {
-            return 2;
-        }
-
         int sizeFor(Asking asking) {
             asking.leave(11);
             int lent = super.sizeFor(asking);
@@ -1265,10 +1233,6 @@ public final class LetterChute {
     }
 
     private static final class Limp extends Card {
-        int floorsToFall(int run, boolean hasCompany) {
-            return hasCompany ? 1 : super.floorsToFall(run, hasCompany);
-        }
-
         int markFor(Asking asking) {
             asking.leave(22);
             return super.markFor(asking) - 1000;
@@ -1276,10 +1240,6 @@ public final class LetterChute {
     }
 
     private static class Parcel extends Letter {
-        int floorsToFall(int run, boolean hasCompany) {
-            return 1;
-        }
-
         int sizeFor(Asking asking) {
             asking.leave(13);
             return super.sizeFor(asking) - 100;
@@ -1293,12 +1253,6 @@ public final class LetterChute {
     }
 
     private static final class Roll extends Parcel {
-        private static final int MOST = 4;
-
-        int floorsToFall(int run, boolean hasCompany) {
-            return Math.min(MOST, super.floorsToFall(run, hasCompany) + run);
-        }
-
         int sizeFor(Asking asking) {
             asking.leave(14);
             return 2 * super.sizeFor(asking);
