@@ -18,6 +18,7 @@ public final class EdgesOfForetoldTest {
         orderOfTheKth();
         orderCountsNAnd1();
         orderOfSeveralTheFirst();
+        orderIsOfTheHouseThatStands();
         needFor1To40();
         needGoesFrom2To20();
         latestFor1To40();
@@ -255,6 +256,29 @@ public final class EdgesOfForetoldTest {
         EDGE.due("as before", y.order(40, 0), 1);
     }
 
+    /** Terms: "from now on": asked again with the same n behind each call that makes the house another. */
+    private static void orderIsOfTheHouseThatStands() {
+        LetterChute x = one();
+        x.image(0);
+        EDGE.due("a card at floor 0", x.order(9, -1), 2);
+        x.ticks(1);
+        EDGE.due("behind ticks", x.order(9, -1), 1);
+        x.undo();
+        EDGE.due("behind undo", x.order(9, -1), 2);
+        x.ticks(1);
+        x.poke(0);
+        EDGE.due("behind poke", x.order(9, -1), 0);
+        x.post(0, 2);
+        EDGE.due("behind post", x.order(9, -1), 3);
+        x.restore(0);
+        EDGE.due("behind restore", x.order(9, -1), 2);
+        Check.tell(x, "h3,9;c2,9,0;");
+        EDGE.due("behind house", x.order(9, -1), 3);
+        x.wide(2);
+        EDGE.due("behind wide", x.order(9, -1), 10);
+        EDGE.due("with another n", x.order(8, -1), 9);
+    }
+
     /** Promise 23: n 1 to 40. */
     private static void needFor1To40() {
         EDGE.bounds("need for n", Scenes::busy, 1, 40, (x, v) -> x.need(v));
@@ -387,6 +411,15 @@ public final class EdgesOfForetoldTest {
         x.poke(3);
         x.poke(3);
         EDGE.due("one that is in the box keeps its share", x.share(3, 10), 3);
+        LetterChute y = Check.chute("h4,9;s3,1,0;c3,4,0;c2,4,0;c1,4,0;");
+        y.ticks(1);
+        y.wide(3);
+        y.ticks(1);
+        int[] once = {0, 2, 2, 1};
+        for (int i = 0; i < 4; i++) {
+            EDGE.due("stuck once each, but the slip: share of 5 for " + i, y.share(i, 5), once[i]);
+        }
+        EDGE.due("stuck once, and none else", Scenes.stuckAt(2).share(0, 999), 999);
     }
 
     /** Promise 27: n 0 to 4, m 1 to 20. */

@@ -1,13 +1,17 @@
 import java.util.Random;
 
-/** Runs of calls by draws (with fixed seeds), held against the plain model, call by call. */
+/**
+ * Runs of calls by draws (with fixed seeds), held against the plain model, call by call. A run ends ahead of an object's 512th
+ * call, for what later calls answer is free; the longest text that is told takes fewer than 100.
+ */
 public final class RunsByDrawTest {
-    private static final int RUNS = 400, CALLS = 500;
+    private static final int RUNS = 1500, CALLS = 412;
     private final Check check = new Check();
     private LetterChute x;
     private PlainChute y;
     private Random draw;
     private String run;
+    private int calls;
 
     public static void main(String[] args) {
         RunsByDrawTest test = new RunsByDrawTest();
@@ -22,9 +26,11 @@ public final class RunsByDrawTest {
         run = "run by " + seed + ": ";
         x = new LetterChute();
         y = new PlainChute();
-        for (int call = 0; call < CALLS; call++) {
+        calls = 0;
+        while (calls < CALLS) {
             oneCall();
         }
+        check.due(run + "calls of one object", calls <= 512 ? 1 : 0, 1);
     }
 
     /** Mostly a number from low to high, at times one just beside, or far away. */
@@ -38,6 +44,7 @@ public final class RunsByDrawTest {
     }
 
     private void due(String call, long got, long want) {
+        calls++;
         check.due(run + call, got, want);
     }
 
@@ -216,13 +223,12 @@ public final class RunsByDrawTest {
         for (int t = 0; t < length; t++) {
             int shaft = 0;
             int box = 0;
-            for (int l = 0; l < x.count(1); l++) {
-                int where = x.ahead(l, t + 1, 0);
+            for (int l = 0; l < y.count(1); l++) {
+                int where = y.ahead(l, t + 1, 0);
                 box += where == 21 ? 1 : 0;
                 shaft += where < 20 ? 1 : 0;
             }
-            x.set(1, t, shaft + 10 * box);
-            y.set(1, t, shaft + 10 * box);
+            due("set of who", x.set(1, t, shaft + 10 * box), y.set(1, t, shaft + 10 * box));
         }
         int i = draw.nextInt(10) == 0 ? some(0, 2) : 0;
         for (int which = 0; which <= 4; which++) {
