@@ -17,6 +17,7 @@ public final class LetterChute {
     private static final int MAX_TICK = 999, MAX_STUCK = 999;
     private static final int ACTS = 24, IMAGES = 2;
     private static final int MAX_AHEAD = 60, MAX_PLANNED = 40, MAX_TOLD = 12;
+    private static final int MORE_THAN_ANY_ORDER = LETTERS * (MAX_PLANNED + 1) + 1;
     private static final int MAX_TURNS = 4, MAX_TURN_TICKS = 20;
     private static final int MAX_SET_THICK = LETTERS * MAX_THICK, MAX_STAMPS = 999, MAX_SEED = 999999;
     private static final int WHICH_KINDS = 0, WHICH_THICKS = 1, WHICH_FLOORS = 2, WHICH_WIDES = 3, WHICH_LEAST_WIDE = 4;
@@ -426,7 +427,7 @@ public final class LetterChute {
             case 1: return now.letters;
             case 2: return now.floors;
             case 3: return now.tick;
-            case 4: return Integer.bitCount(now.lying[BOX]);
+            case 4: return now.lettersBoxed();
             case 5: return now.stuckTogether();
             case 6: return actsKept;
             case 7: return reader.length;
@@ -485,7 +486,7 @@ public final class LetterChute {
     }
 
     private int setsSoThick(int v, int what) {
-        int outside = now.allLetters() & ~now.lying[BOX];
+        int outside = now.lettersOutside();
         int many = 0;
         int inEach = outside;
         int inAny = 0;
@@ -955,7 +956,7 @@ public final class LetterChute {
             if (orderedFor == n) {
                 return;
             }
-            fewestTicks = Integer.MAX_VALUE;
+            fewestTicks = MORE_THAN_ANY_ORDER;
             extendOrder(now, n, 0, 0);
             orderedFor = n;
         }

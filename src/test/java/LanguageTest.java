@@ -7,6 +7,7 @@ import java.util.ArrayList;
 import java.util.Arrays;
 import java.util.List;
 import java.util.TreeSet;
+import java.util.regex.Matcher;
 import java.util.regex.Pattern;
 
 /** The public face, and those rules of LANGUAGE.md that can be seen in the program's text or its classes. */
@@ -26,6 +27,7 @@ public final class LanguageTest {
         theConstants();
         theClassesInside();
         theText();
+        theLibrary();
         CHECK.end();
     }
 
@@ -85,8 +87,22 @@ public final class LanguageTest {
         }
     }
 
+    private static String program() throws Exception {
+        return Files.readString(Path.of(PROGRAM)).replaceAll("(?s)/\\*.*?\\*/", "").replaceAll("//.*", "");
+    }
+
+    /** Rule 4: functions of the library alone, and only these; no constants of it, such as the greatest int. */
+    private static void theLibrary() throws Exception {
+        List<String> may = List.of("Integer.bitCount(", "Integer.numberOfTrailingZeros(", "Math.min(", "Math.max(",
+            "System.arraycopy(", "House.below(");
+        Matcher uses = Pattern.compile("\\b[A-Z]\\w*\\.\\w+\\(?").matcher(program());
+        while (uses.find()) {
+            so("the library has " + uses.group(), may.contains(uses.group()));
+        }
+    }
+
     private static void theText() throws Exception {
-        String text = Files.readString(Path.of(PROGRAM)).replaceAll("(?s)/\\*.*?\\*/", "").replaceAll("//.*", "");
+        String text = program();
         for (String word : List.of("throw", "throws", "try", "catch", "synchronized", "assert", "import", "package", "float",
             "double", "Object", "Exception", "System.out", "hashCode", "toString")) {
             so("no " + word, !Pattern.compile("\\b" + Pattern.quote(word) + "\\b").matcher(text).find());
