@@ -14,6 +14,7 @@ public final class EdgesOfForetoldTest {
         whenInTheShaftAndInTheBox();
         whenNever();
         overNowAndNever();
+        whenAndOverAtTheLongest();
         orderFor1To40();
         orderOfTheKth();
         orderCountsNAnd1();
@@ -195,6 +196,21 @@ public final class EdgesOfForetoldTest {
         EDGE.due("never over, as one of two waits", Check.chute("h3,2;c2,2,0;c2,3,0;").over(), NONE);
     }
 
+    /** Promises 20, 21, 23: "each that WAITS and whose START is TICK or less .. comes into the shaft at its FLOOR, if there is
+     *  room": the latest START, the highest FLOOR, one after the other, as late as six letters are known to come down. */
+    private static void whenAndOverAtTheLongest() {
+        LetterChute x = Check.chute("h9,9;p8,9,20;p8,9,20;p8,9,20;p8,9,20;p8,9,20;p8,9,20;");
+        for (int i = 0; i < 6; i++) {
+            EDGE.due("in a queue, in the shaft, " + i, x.when(i, 0), 21 + i);
+            EDGE.due("in a queue, in the box, " + i, x.when(i, 1), 30 + i);
+        }
+        EDGE.due("in a queue, over", x.over(), 35);
+        EDGE.due("in a queue, need for just so many", x.need(35), 9);
+        EDGE.due("by two at a time", x.need(34), 18);
+        EDGE.due("by two at a time, just so many", x.need(32), 18);
+        EDGE.due("three at a time never fit", x.need(31), NONE);
+    }
+
     /** Promise 22: n 1 to 40. */
     private static void orderFor1To40() {
         EDGE.bounds("order for n", Scenes::busy, 1, 40, (x, v) -> x.order(v, -1));
@@ -231,6 +247,11 @@ public final class EdgesOfForetoldTest {
         EDGE.due("down in 2 of 2", one().order(2, -1), 2);
         EDGE.due("never down", Scenes.stuckAt(2).order(40, -1), 41);
         EDGE.due("never down, in 1", Scenes.stuckAt(2).order(1, -1), 2);
+        LetterChute none = Check.chute("h3,2;c2,3,0;c2,3,0;c2,3,0;c2,3,0;c2,3,0;c2,3,0;");
+        EDGE.due("none of six is ever down: as many as there can be", none.order(40, -1), 246);
+        for (int k = 0; k < 6; k++) {
+            EDGE.due("and the first order, k " + k, none.order(40, k), k);
+        }
         LetterChute x = one();
         x.ticks(2);
         EDGE.due("all in the box now", x.order(40, -1), 0);
